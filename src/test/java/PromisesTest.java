@@ -110,7 +110,8 @@ public final class PromisesTest {
         Check.due("arrive(1, 1, 3)", x.arrive(1, 1, 3), 2);
         Check.due("arrive(1, 2, 3) in the pause", x.arrive(1, 2, 3), 0);
         // In reach it is seen to the end, for the points.
-        Check.due("arrive(1, 8, 3)", x.arrive(1, 8, 3), 2);
+        Check.ticks(x, 4);
+        Check.due("arrive(1, 8, 3)", x.arrive(1, 8, 3), 6);
         Check.due("strength(0)", x.strength(0), 4);
     }
 
@@ -131,7 +132,7 @@ public final class PromisesTest {
         RollbackGame x = new RollbackGame();
         Check.ticks(x, 8);
         Check.due("arrive(0, 5, 1)", x.arrive(0, 5, 1), 3);
-        // The guesses end before frame 5: place 1 after 3 frames, then 2 again, then left anyway.
+        // The guess for frame 4 changes with it, that for frame 6 does not.
         Check.due("arrive(0, 3, 2)", x.arrive(0, 3, 2), 5);
         Check.due("arrive(0, 2, 1)", x.arrive(0, 2, 1), 6);
         Check.due("shown(3)", x.shown(3), 5571);
