@@ -2,15 +2,23 @@
 final class Check {
     private static int wrong = 0;
     private static int asked = 0;
+    private static int sentences = 0;
+    private static String sentence = "";
 
     private Check() {
+    }
+
+    /** What follows tests this sentence of the document; it is told with a wrong answer. */
+    static void sentence(String text) {
+        sentences++;
+        sentence = "[" + text + "] ";
     }
 
     static void due(String call, long got, long want) {
         asked++;
         if (got != want) {
             wrong++;
-            System.out.println(call + " answered " + got + ", due is " + want);
+            System.out.println(sentence + call + " answered " + got + ", due is " + want);
         }
     }
 
@@ -19,7 +27,8 @@ final class Check {
     }
 
     static void end() {
-        System.out.println(asked + " answers, " + wrong + " not as due");
+        String of = sentences > 0 ? " to " + sentences + " sentences" : "";
+        System.out.println(asked + " answers" + of + ", " + wrong + " not as due");
         if (wrong != 0) {
             System.exit(1);
         }
@@ -43,6 +52,18 @@ final class Check {
         for (int i = 0; i < count; i++) {
             x.tick();
         }
+    }
+
+    /** All answers now, to every arrival and tick that may still come, and after them: 389 calls. */
+    static String answersToTheEnd(RollbackGame x) {
+        StringBuilder all = new StringBuilder(answers(x));
+        for (int i = 0; i < 41; i++) {
+            all.append(' ').append(x.tick());
+        }
+        for (int i = 0; i < 80; i++) {
+            all.append(' ').append(x.arrive(i % 2, i / 2, (i + i / 7) % 4));
+        }
+        return all.append(' ').append(answers(x)).toString();
     }
 
     /** What a call without effect must leave as it was: 134 calls, of the 512 that an object is good for. */
